@@ -180,7 +180,7 @@ public final class CandleInch {
 
     public boolean end(int n) {
         if (n < 0 || n > tape.length) {
-            return refuse(REFUSED_TAPE) != NONE;
+            return deny(REFUSED_TAPE);
         }
         tape.length = n;
         return true;
@@ -327,7 +327,7 @@ public final class CandleInch {
     public boolean seat(int reader, int table) {
         if (!hall.shelf.holds(READERS, reader) || !hall.shelf.holds(TABLES, table)
                 || hall.of(reader, HIS_TABLE) == table) {
-            return refuse(REFUSED_ACT) != NONE;
+            return deny(REFUSED_ACT);
         }
         hall.remember();
         hall.set(reader, HIS_TABLE, table);
@@ -337,7 +337,7 @@ public final class CandleInch {
     public boolean list(int reader, int page) {
         if (!hall.shelf.holds(READERS, reader) || !hall.shelf.holds(PAGES, page)
                 || !hall.mayList(reader, page)) {
-            return refuse(REFUSED_ACT) != NONE;
+            return deny(REFUSED_ACT);
         }
         hall.remember();
         hall.putBehind(reader, page);
@@ -359,7 +359,7 @@ public final class CandleInch {
     public boolean tell(int from, int to, int page) {
         if (!hall.shelf.holds(READERS, from) || !hall.shelf.holds(READERS, to)
                 || !hall.shelf.holds(PAGES, page) || !mayTell(from, to, page)) {
-            return refuse(REFUSED_ACT) != NONE;
+            return deny(REFUSED_ACT);
         }
         hall.remember();
         hall.set(to, HIS_HEARD, hall.of(to, HIS_HEARD) | (1 << page));
@@ -390,14 +390,14 @@ public final class CandleInch {
 
     public boolean undo() {
         if (!hall.recall()) {
-            return refuse(REFUSED_UNDO) != NONE;
+            return deny(REFUSED_UNDO);
         }
         return true;
     }
 
     public boolean seed(int seed) {
         if (seed < 0) {
-            return refuse(REFUSED_OTHER) != NONE;
+            return deny(REFUSED_OTHER);
         }
         draw = seed;
         return true;
@@ -534,7 +534,7 @@ public final class CandleInch {
         boolean good = picture.read(tape, hall.shelf);
         tape.length = 0;
         if (!good) {
-            return refuse(REFUSED_OTHER) != NONE;
+            return deny(REFUSED_OTHER);
         }
         hall.become(picture.row);
         return true;
@@ -547,6 +547,11 @@ public final class CandleInch {
     private int refuse(int which) {
         refused[which]++;
         return NONE;
+    }
+
+    private boolean deny(int which) {
+        refused[which]++;
+        return false;
     }
 
     private boolean mayTell(int from, int to, int page) {
@@ -1409,25 +1414,28 @@ public final class CandleInch {
             return stack[0];
         }
 
-        private static int join(int operator, int a, int b) {
+        private static int join(int operator, long a, long b) {
             switch (operator) {
-                case DO_ADD: return bounded((long) a + b);
-                case DO_LESSEN: return bounded((long) a - b);
-                case DO_TIMES: return bounded((long) a * b);
+                case DO_ADD: return bounded(a + b);
+                case DO_LESSEN: return bounded(a - b);
+                case DO_TIMES: return bounded(a * b);
                 case DO_DIVIDE: return b == 0 ? 0 : bounded(Math.floorDiv(a, b));
-                case DO_REST: return b == 0 ? 0 : Math.floorMod(a, b);
-                case DO_MIN: return Math.min(a, b);
-                case DO_MAX: return Math.max(a, b);
+                case DO_REST: return b == 0 ? 0 : bounded(Math.floorMod(a, b));
+                case DO_MIN: return bounded(a < b ? a : b);
+                case DO_MAX: return bounded(a > b ? a : b);
                 case DO_BELOW: return a < b ? 1 : 0;
                 case DO_ABOVE: return a > b ? 1 : 0;
                 case DO_SAME: return a == b ? 1 : 0;
-                case DO_AND: return a & b;
-                default: return a | b;
+                case DO_AND: return bounded(a & b);
+                default: return bounded(a | b);
             }
         }
 
         private static int bounded(long result) {
-            return (int) Math.max(-MOST_RESULT, Math.min(MOST_RESULT, result));
+            if (result > MOST_RESULT) {
+                return MOST_RESULT;
+            }
+            return result < -MOST_RESULT ? -MOST_RESULT : (int) result;
         }
     }
 
@@ -1626,7 +1634,7 @@ public final class CandleInch {
             this.sums = sums;
         }
 
-        int lightOf(int reader) {
+        private int lightOf(int reader) {
             int table = hall.of(reader, HIS_TABLE);
             return sums.lightAt(table, hall.shelf.draft[table]);
         }
@@ -1816,7 +1824,8 @@ public final class CandleInch {
         }
 
         private void measure(int sharer) {
-            light[sharer] = study.lightOf(sharer);
+            int table = hall.of(sharer, HIS_TABLE);
+            light[sharer] = sums.lightAt(table, hall.shelf.draft[table]);
             part[sharer] = 0;
             spent[sharer] = 0;
             sums.setNow(sharer);
