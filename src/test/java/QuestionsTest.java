@@ -9,6 +9,7 @@ public final class QuestionsTest {
         shared();
         sharedLimits();
         seated();
+        seatedByAll();
         seatedByTrying();
         most();
         wax();
@@ -178,6 +179,23 @@ public final class QuestionsTest {
         Check.due("tonight", z.whole(0), 1);
         Check.due("seated", z.seated(NONE), 0);
         Check.due("wax", z.seated(20), 0);
+    }
+
+    private static void seatedByAll() {
+        StringBuilder text = new StringBuilder("book b;page p of b lines 10;");
+        for (int r = 0; r < 6; r++) {
+            text.append("reader r").append((char) ('a' + r)).append(" pace 1 eyes 0;");
+        }
+        CandleInch x = Check.of(text + "table s draft 0;table t draft 1;table u draft 2;table v draft 3;table w draft 4;"
+                + "burns draft/4*max(0,sitting-5)*500;takes 500;");
+        for (int r = 0; r < 6; r++) {
+            x.list(r, 0);
+        }
+        Check.due("pages", x.seated(NONE), 6);
+        Check.due("wax", x.seated(20), 2500);
+        for (int r = 0; r < 6; r++) {
+            Check.due("all at the last table", x.seated(r), 4);
+        }
     }
 
     /** All seats are tried by the acts themselves. */

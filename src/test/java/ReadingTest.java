@@ -306,6 +306,12 @@ public final class ReadingTest {
         dueRow("read at once", tonightRow(x, 0), 2, 3, 1, NONE, 0);
         Check.due("wax", x.whole(2), 19);
         Check.due("night", x.night(), 2);
+        CandleInch y = Check.of("book b;page p of b lines 50;reader r pace 1 eyes 0;table t draft 0;table u draft 9;"
+                + "burns 20-3*draft;takes lines-5*draft;");
+        y.list(0, 0);
+        y.night();
+        y.seat(0, 1);
+        dueRow("but not without light", tonightRow(y, 0), 0, 0, 0, 0, 20);
     }
 
     private static void leftOffButMayNot() {
