@@ -190,6 +190,10 @@ public final class ImagesTest {
                 Check.checked(0, 0, 0, 0, 0, 0, 0, 0, 0, 0, 0, 0, 8, 0, 1, 2, 3, 4, 5, 6, 7, 0)), true);
         Check.due("9 listed", Check.on(Check.of(text.toString()),
                 Check.checked(0, 0, 0, 0, 0, 0, 0, 0, 0, 0, 0, 0, 9, 0, 1, 2, 3, 4, 5, 6, 7, 8, 0)), false);
+        Check.due("listed again behind another", Check.on(Check.of(text.toString()),
+                Check.checked(0, 0, 0, 0, 0, 0, 0, 0, 0, 0, 0, 0, 3, 1, 2, 1, 0)), false);
+        Check.due("known, listed behind another", Check.on(Check.of(text.toString()),
+                Check.checked(0, 0, 0, 0, 0, 0, 1, 0, 0, 0, 0, 0, 2, 1, 0, 0)), false);
         Check.due("two bytes of bits", Check.on(Check.of(text.toString()),
                 Check.checked(0, 0, 0, 0, 0, 1, 255, 0, 0, 0, 0, 0, 0, 0)), true);
     }

@@ -221,6 +221,8 @@ public final class ReadingTest {
         dueTest("1=1 and 2=2 and 3=4", false);
         dueTest("lines=7 and print=1 and pace=5 and eyes=0 and knows=0 and draft=4 and sitting=2 and inch=50 and night=1", true);
         dueTest("0-5<0-4", true);
+        dueTest("2=2 and 1<2 and 2>1 and all", true);
+        dueTest("not 2=2 or not 1<2 or not 2>1", false);
     }
 
     private static void bounds() {

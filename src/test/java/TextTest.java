@@ -161,6 +161,24 @@ public final class TextTest {
         Check.due("letter of rr", x.letter(2, 1, 1), 18);
         Check.due("letter of rr", x.letter(2, 1, 2), 0);
         Check.due("letter of tz", x.letter(3, 1, 1), 26);
+        int[] most = {5, 14, 6, 5};
+        StringBuilder full = new StringBuilder();
+        for (int kind = 0; kind < 4; kind++) {
+            for (int k = 0; k < most[kind]; k++) {
+                full.append(new String[] {"book ", "page ", "reader ", "table "}[kind]);
+                full.append((char) ('w' + kind)).append((char) ('a' + k)).append("zzzz");
+                full.append(new String[] {";", " of wazzzz lines 1;", " pace 1 eyes 1;", " draft 1;"}[kind]);
+            }
+        }
+        CandleInch y = Check.of(full.toString());
+        for (int kind = 0; kind < 4; kind++) {
+            for (int which = 0; which < most[kind]; which++) {
+                for (int k = 0; k < 6; k++) {
+                    int sign = k == 0 ? 23 + kind : k == 1 ? 1 + which : 26;
+                    Check.due("letter(" + kind + ", " + which + ", " + k + ")", y.letter(kind, which, k), sign);
+                }
+            }
+        }
         Check.due("letter 6", x.letter(0, 1, 6), NONE);
         Check.due("letter -1", x.letter(0, 1, -1), NONE);
         Check.due("book 2", x.letter(0, 2, 0), NONE);
