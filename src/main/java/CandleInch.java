@@ -601,67 +601,66 @@ public final class CandleInch {
 
         void rewind() {
             past = 0;
+            kind = KIND_END;
             step();
         }
 
         void step() {
+            boolean behindWord = kind == KIND_NAME || kind == KIND_OWN || kind == KIND_NUMBER;
             start = past;
             while (start < length && (bytes[start] == 10 || bytes[start] == 32)) {
                 start++;
             }
-            badAt = start;
+            // words and numbers side by side need a blank between them
+            boolean glued = behindWord && start == past;
             int first = byteAt(start);
-            if (first == NONE) {
-                kind = KIND_END;
-                past = start;
-            } else if (isLetter(first)) {
-                stepWord();
+            int most = 1;
+            kind = first == NONE ? KIND_END : KIND_SIGN;
+            value = first;
+            past = first == NONE ? start : start + 1;
+            if (isLetter(first)) {
+                past = endOfWord();
+                value = ownWord();
+                kind = value == NONE ? KIND_NAME : KIND_OWN;
+                most = value == NONE ? NAME_LENGTH : OWN_COLUMNS;
             } else if (isDigit(first)) {
-                stepNumber();
-            } else {
-                kind = KIND_SIGN;
-                value = first;
-                past = start + 1;
+                past = endOfNumber();
+                value = number();
+                kind = KIND_NUMBER;
+                most = NUMBER_LENGTH;
             }
-        }
-
-        private void stepWord() {
-            past = start + 1;
-            while (past < length && isLetter(bytes[past])) {
-                past++;
-            }
-            value = ownWord();
-            kind = value == NONE ? KIND_NAME : KIND_OWN;
-            if (value == NONE && past - start > NAME_LENGTH) {
+            badAt = start;
+            if (past - start > most) {
                 kind = KIND_BAD;
-                badAt = start + NAME_LENGTH;
-            } else if (isGlued()) {
+                badAt = start + most;
+            } else if (glued && kind != KIND_SIGN && kind != KIND_END) {
                 kind = KIND_BAD;
             }
         }
 
-        private void stepNumber() {
-            value = 0;
-            past = start;
-            while (past < length && isDigit(bytes[past])) {
-                if (past - start < NUMBER_LENGTH) {
-                    value = value * 10 + bytes[past] - '0';
-                }
-                past++;
+        private int endOfWord() {
+            int at = start;
+            while (at < length && isLetter(bytes[at])) {
+                at++;
             }
-            kind = KIND_NUMBER;
-            if (past - start > NUMBER_LENGTH) {
-                kind = KIND_BAD;
-                badAt = start + NUMBER_LENGTH;
-            } else if (isGlued()) {
-                kind = KIND_BAD;
-            }
+            return at;
         }
 
-        /** Words and numbers side by side need a blank between them. */
-        private boolean isGlued() {
-            int before = byteAt(start - 1);
-            return isLetter(before) || isDigit(before);
+        private int endOfNumber() {
+            int at = start;
+            while (at < length && isDigit(bytes[at])) {
+                at++;
+            }
+            return at;
+        }
+
+        /** Of a number that is too long the digits too many don't count, so that it stays an int. */
+        private int number() {
+            int number = 0;
+            for (int at = start; at < past && at < start + NUMBER_LENGTH; at++) {
+                number = number * 10 + bytes[at] - '0';
+            }
+            return number;
         }
 
         private int ownWord() {
@@ -833,11 +832,12 @@ public final class CandleInch {
 
         private boolean statement(int told) {
             int word = tape.kind == KIND_OWN ? tape.value : NONE;
-            int room = roomFor(word);
+            // the 81st is one too many whatever it is, but a word that is too long is a fault of its own
+            int room = told < MOST_STATEMENTS || tape.kind == KIND_BAD ? roomFor(word) : 0;
             if (room == NONE) {
                 return refuseWord();
             }
-            if (room == 0 || told == MOST_STATEMENTS) {
+            if (room == 0) {
                 return fail(FAULT_MANY, tape.start);
             }
             tape.step();

@@ -172,6 +172,8 @@ final class Model {
         }
 
         void statement() {
+            see();
+            full(false);
             switch (see()) {
                 case "book": full(into.books.size() == 5); next++; into.books.add(given()); break;
                 case "page": full(into.pages.size() == 14); next++; page(); break;

@@ -351,7 +351,10 @@ public final class TextTest {
         Check.fault("burns 1;takes 1;tells all;tells", 6, 26);
         Check.fault(Check.times("inch 10;", 80) + "inch", 6, 640);
         Check.fault(Check.times("inch 10;", 80) + "book a;", 6, 640);
-        Check.fault(Check.times("inch 10;", 80) + ";", 1, 640);
+        Check.fault(Check.times("inch 10;", 80) + ";", 6, 640);
+        Check.fault(Check.times("inch 10;", 80) + "x", 6, 640);
+        Check.due("80 and blanks", Check.tell(new CandleInch(), Check.times("inch 10;", 80) + " \n "), 80);
+        Check.due("80 of all kinds", Check.tell(new CandleInch(), "book a;" + Check.times("inch 10;", 78) + "burns 1;"), 80);
     }
 
     private static void grammar() {
