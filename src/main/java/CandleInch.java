@@ -611,7 +611,6 @@ public final class CandleInch {
             while (start < length && (bytes[start] == 10 || bytes[start] == 32)) {
                 start++;
             }
-            // words and numbers side by side need a blank between them
             boolean glued = behindWord && start == past;
             int first = byteAt(start);
             int most = 1;
@@ -629,12 +628,13 @@ public final class CandleInch {
                 kind = KIND_NUMBER;
                 most = NUMBER_LENGTH;
             }
+            // side by side they need a blank; where it lacks comes ahead of where a word or number is too long
             badAt = start;
-            if (past - start > most) {
+            if (glued && kind != KIND_SIGN && kind != KIND_END) {
+                kind = KIND_BAD;
+            } else if (past - start > most) {
                 kind = KIND_BAD;
                 badAt = start + most;
-            } else if (glued && kind != KIND_SIGN && kind != KIND_END) {
-                kind = KIND_BAD;
             }
         }
 
@@ -832,8 +832,8 @@ public final class CandleInch {
 
         private boolean statement(int told) {
             int word = tape.kind == KIND_OWN ? tape.value : NONE;
-            // the 81st is one too many whatever it is, but a word that is too long is a fault of its own
-            int room = told < MOST_STATEMENTS || tape.kind == KIND_BAD ? roomFor(word) : 0;
+            // the 81st is one too many whatever it is: its first byte comes ahead of any fault within it
+            int room = told < MOST_STATEMENTS ? roomFor(word) : 0;
             if (room == NONE) {
                 return refuseWord();
             }

@@ -106,9 +106,9 @@ final class Model {
         String see() {
             if (next == tokens.size()) return "";
             Token t = tokens.get(next);
+            if (t.glued) throw new Fault(1, t.at);
             if (letter(t.text.charAt(0)) && t.text.length() > 6 && !OWN.contains(t.text)) throw new Fault(1, t.at + 6);
             if (digit(t.text.charAt(0)) && t.text.length() > 4) throw new Fault(1, t.at + 4);
-            if (t.glued) throw new Fault(1, t.at);
             return t.text;
         }
 
@@ -162,7 +162,7 @@ final class Model {
         }
 
         Text whole() {
-            while (!is("")) {
+            while (next < tokens.size()) {
                 statement();
                 want(";");
                 into.told++;
@@ -172,7 +172,6 @@ final class Model {
         }
 
         void statement() {
-            see();
             full(false);
             switch (see()) {
                 case "book": full(into.books.size() == 5); next++; into.books.add(given()); break;

@@ -243,6 +243,30 @@ public final class TextTest {
         Check.fault("takes lines5;", 1, 11);
         Check.fault("tells 1<2or 2<3;", 1, 9);
         Check.fault("tells not5<6;", 1, 9);
+        // where the blank lacks comes ahead of where the word or number is too long
+        Check.fault("burns 1readertell", 1, 7);
+        Check.fault("burns 1abcdef", 1, 7);
+        Check.fault("burns 1abcdefg", 1, 7);
+        Check.fault("burns 1sitting;", 1, 7);
+        Check.fault("burns 1sittings;", 1, 7);
+        Check.fault("burns 1 abcdefg;", 1, 14);
+        Check.fault("burns 1\nabcdefg;", 1, 14);
+        Check.fault("burns 1)abcdefg;", 1, 7);
+        Check.fault("burns 1+abcdefg;", 1, 14);
+        Check.fault("inch12345;", 1, 4);
+        Check.fault("inch1234;", 1, 4);
+        Check.fault("inch 12345abcdefg;", 1, 9);
+        Check.fault("book a12345;", 1, 6);
+        Check.fault("book abcdef12345;", 1, 11);
+        Check.fault("book abcdefg12345;", 1, 11);
+        Check.fault("burns inch00000;", 1, 10);
+        Check.fault("burns inch 00000;", 1, 15);
+        Check.fault("takes min12345(1,2);", 1, 9);
+        Check.fault("tells not99999<6;", 1, 9);
+        Check.fault("tells 1<2orandnotall;", 1, 9);
+        Check.fault("book a;page p of a lines 5bigbigbig;", 1, 26);
+        Check.fault("book a;page p of a lines 5 bigbigbig;", 1, 33);
+        Check.fault("book a;page p of a lines 5 big77777;", 1, 30);
     }
 
     private static void faultNames() {
@@ -353,6 +377,9 @@ public final class TextTest {
         Check.fault(Check.times("inch 10;", 80) + "book a;", 6, 640);
         Check.fault(Check.times("inch 10;", 80) + ";", 6, 640);
         Check.fault(Check.times("inch 10;", 80) + "x", 6, 640);
+        Check.fault(Check.times("inch 10;", 80) + "abcdefg", 6, 640);
+        Check.fault(Check.times("inch 10;", 80) + " 12345", 6, 641);
+        Check.fault(Check.times("inch 10;", 79) + "abcdefg", 1, 638);
         Check.due("80 and blanks", Check.tell(new CandleInch(), Check.times("inch 10;", 80) + " \n "), 80);
         Check.due("80 of all kinds", Check.tell(new CandleInch(), "book a;" + Check.times("inch 10;", 78) + "burns 1;"), 80);
     }
