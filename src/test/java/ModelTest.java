@@ -43,6 +43,10 @@ public final class ModelTest {
         }
         for (int k = 0; k < 15; k++) {
             tell(spoilt(text()));
+            tell(squeezed(text()));
+        }
+        if (chance(10)) {
+            tell(crowded());
         }
     }
 
@@ -190,6 +194,28 @@ public final class ModelTest {
             }
         }
         return s.length() <= 1600 ? s.toString() : s.substring(0, 1600);
+    }
+
+    /** Blanks left out here and there, and words and numbers made longer, so that several faults lie close together. */
+    private String squeezed(String text) {
+        StringBuilder s = new StringBuilder();
+        int from = pick(text.length() + 1);
+        for (int k = 0; k < text.length(); k++) {
+            char c = text.charAt(k);
+            if (k < from || c != ' ' || chance(70)) {
+                s.append(c);
+            }
+            if (k >= from && chance(5)) {
+                s.append(chance(50) ? "abcdefgh".substring(pick(8)) : "123456".substring(pick(6)));
+            }
+        }
+        return s.length() <= 1600 ? s.toString() : s.substring(0, 1600);
+    }
+
+    /** Some 80 statements, and something behind them. */
+    private String crowded() {
+        String[] behind = {"", " ", ";", "inch", "inch 20;", "x", "abcdefgh", "12345", "book a;", "(", "inch99999", "\n\n7seven"};
+        return Check.times("inch 10;", 78 + pick(3)) + behind[pick(behind.length)] + behind[pick(behind.length)];
     }
 
     private void feedBoth(int[] bytes) {
