@@ -1,3 +1,8 @@
+import java.util.ArrayList;
+import java.util.List;
+import java.util.function.Supplier;
+import java.util.function.ToIntFunction;
+
 /** What all tests of the project use: due answers are counted, texts are fed. */
 final class Check {
     private static int wrong = 0;
@@ -63,6 +68,104 @@ final class Check {
         due("fault(0) of '" + text + "'", x.fault(0), fault);
         due("fault(1) of '" + text + "'", x.fault(1), place);
         due("status(1) of '" + text + "'", x.status(1), 1);
+    }
+
+    /** All that can be looked at but the tape, the fault and the counts of refusals: some 20 calls and 22 a reader. */
+    static List<Integer> stateOf(CandleInch x) {
+        List<Integer> state = new ArrayList<>();
+        for (int what = 0; what < 12; what++) {
+            state.add(x.has(what));
+        }
+        for (int r = 0; r < state.get(3); r++) {
+            for (int what = 0; what < 11 + x.reader(r, 7); what++) {
+                state.add(x.reader(r, what));
+            }
+            state.add(x.burns(r));
+            state.add(x.takes(r, 0));
+        }
+        for (int p = 0; p < state.get(1); p++) {
+            for (int what = 0; what < 5; what++) {
+                state.add(x.page(p, what));
+            }
+        }
+        for (int t = 0; t < state.get(4); t++) {
+            state.add(x.table(t, 0));
+        }
+        for (int k = 0; k < state.get(8); k++) {
+            for (int what = 0; what < 3; what++) {
+                state.add(x.kept(k, what));
+            }
+        }
+        for (int k = 0; k < 5; k++) {
+            state.add(x.octet(k));
+        }
+        return state;
+    }
+
+    static void same(String what, List<Integer> got, List<Integer> want) {
+        due(what + ": " + got + " for " + want, got.equals(want), true);
+    }
+
+    /** A call that is refused has its answer, counts one more of its sort, and all else stays. */
+    static void refused(String why, Supplier<CandleInch> made, ToIntFunction<CandleInch> call, int answer, int sort) {
+        CandleInch x = made.get();
+        List<Integer> before = stateOf(x);
+        int[] counts = countsOf(x);
+        due(why, call.applyAsInt(x), answer);
+        counts[sort]++;
+        int[] after = countsOf(x);
+        for (int k = 0; k < counts.length; k++) {
+            due(why + ": status(" + k + ")", after[k], counts[k]);
+        }
+        same(why + ": all stays", stateOf(x), before);
+    }
+
+    static int[] countsOf(CandleInch x) {
+        int[] counts = new int[6];
+        for (int k = 0; k < counts.length; k++) {
+            counts[k] = x.status(k);
+        }
+        return counts;
+    }
+
+    static int bit(boolean answer) {
+        return answer ? 1 : 0;
+    }
+
+    /** A text's library must be taken. */
+    static void fine(String text, int statements) {
+        CandleInch x = new CandleInch();
+        due("library() of '" + text + "'", tell(x, text), statements);
+        due("fault(0) of '" + text + "'", x.fault(0), 0);
+        due("fault(1) of '" + text + "'", x.fault(1), CandleInch.NONE);
+        due("status(1) of '" + text + "'", x.status(1), 0);
+    }
+
+    /** A book b, n pages pa, pb .. of so many lines. */
+    static String pages(int n, int lines) {
+        StringBuilder s = new StringBuilder("book b;");
+        for (int k = 0; k < n; k++) {
+            s.append("page p").append((char) ('a' + k)).append(" of b lines ").append(lines).append(';');
+        }
+        return s.toString();
+    }
+
+    /** n readers ra, rb .. of pace 1 and eyes 0. */
+    static String readers(int n) {
+        StringBuilder s = new StringBuilder();
+        for (int k = 0; k < n; k++) {
+            s.append("reader r").append((char) ('a' + k)).append(" pace 1 eyes 0;");
+        }
+        return s.toString();
+    }
+
+    /** n tables ta, tb .. of no draft. */
+    static String tables(int n) {
+        StringBuilder s = new StringBuilder();
+        for (int k = 0; k < n; k++) {
+            s.append("table t").append((char) ('a' + k)).append(" draft 0;");
+        }
+        return s.toString();
     }
 
     /** The latest image of an object. */

@@ -19,6 +19,7 @@ public final class LanguageTest {
         face();
         nested();
         words();
+        lengths();
         Check.close("LanguageTest");
     }
 
@@ -70,6 +71,23 @@ public final class LanguageTest {
         }
         for (char c : text.toCharArray()) {
             Check.due("a sign of 1 to 127", c >= 1 && c <= 127, true);
+        }
+    }
+
+    /** Methods have some sixty lines; one begins four or eight blanks in, and ends with the brace below its first letter. */
+    private static void lengths() throws Exception {
+        String indent = "";
+        int lines = 0;
+        for (String line : Files.readAllLines(Path.of("src/main/java/CandleInch.java"))) {
+            if (line.matches(" {4}( {4})?[A-Za-z][^=;]*\\) \\{")) {
+                indent = line.substring(0, line.length() - line.stripLeading().length());
+                lines = 0;
+            }
+            lines++;
+            if (line.equals(indent + "}")) {
+                Check.due("a method of " + lines + " lines", lines <= 60, true);
+                lines = 0;
+            }
         }
     }
 }

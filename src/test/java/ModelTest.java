@@ -9,6 +9,8 @@ public final class ModelTest {
     private CandleInch x = new CandleInch();
     private Model m = new Model();
     private int calls = 0;
+    /** Of the object at hand; behind its 512th call nothing is promised. */
+    private int used = 0;
 
     private ModelTest(int run) {
         this.run = run;
@@ -17,7 +19,7 @@ public final class ModelTest {
 
     public static void main(String[] args) {
         int from = args.length > 0 ? Integer.parseInt(args[0]) : 0;
-        int runs = args.length > 1 ? Integer.parseInt(args[1]) : 400;
+        int runs = args.length > 1 ? Integer.parseInt(args[1]) : 2000;
         for (int run = from; run < from + runs; run++) {
             new ModelTest(run).go();
         }
@@ -32,22 +34,29 @@ public final class ModelTest {
                 text = spoilt(text);
             }
             tell(text);
-            if (x.fault(0) != 0 && random.nextInt(3) > 0) {
+            if (m.fault(0) != 0 && random.nextInt(3) > 0) {
                 tell(text());
             }
             int n = random.nextInt(120);
-            for (int k = 0; k < n; k++) {
+            for (int k = 0; k < n && hasRoom(260); k++) {
                 step();
             }
-            all();
+            for (int k = 0; k < 100 && hasRoom(1); k++) {
+                look();
+            }
         }
-        for (int k = 0; k < 15; k++) {
+        for (int k = 0; k < 3; k++) {
             tell(spoilt(text()));
             tell(squeezed(text()));
         }
-        if (chance(10)) {
+        if (chance(5)) {
             tell(crowded());
         }
+        Check.due("run " + run + ": calls beyond 512", Math.max(0, used - 512), 0);
+    }
+
+    private boolean hasRoom(int more) {
+        return used + more <= 512;
     }
 
     private int pick(int n) {
@@ -60,6 +69,7 @@ public final class ModelTest {
 
     private void due(String call, long got, long want) {
         calls++;
+        used++;
         Check.due("run " + run + ", call " + calls + ": " + call, got, want);
     }
 
@@ -233,6 +243,12 @@ public final class ModelTest {
     }
 
     private void tell(String text) {
+        if (!hasRoom(6 + text.length() / 20)) {
+            Check.due("run " + run + ": calls beyond 512", Math.max(0, used - 512), 0);
+            x = new CandleInch();
+            m = new Model();
+            used = 0;
+        }
         feedBoth(Check.bytesOf(text));
         int got = x.library();
         int want = m.library();
@@ -293,8 +309,8 @@ public final class ModelTest {
             case 14: pictures(); break;
             default: questions(); break;
         }
-        if (chance(20)) {
-            looks();
+        for (int k = pick(5); k > 0; k--) {
+            look();
         }
     }
 
@@ -321,23 +337,6 @@ public final class ModelTest {
             }
             feedBoth(bytes);
             due("on()", x.on(), m.on());
-        }
-    }
-
-    private void looks() {
-        for (int r = -1; r <= m.has(3); r++) {
-            for (int what = -1; what < 6; what++) {
-                due("tonight(" + r + ", " + what + ")", x.tonight(r, what), m.tonight(r, what));
-            }
-            for (int what = -1; what < 19; what++) {
-                due("reader(" + r + ", " + what + ")", x.reader(r, what), m.reader(r, what));
-            }
-        }
-        for (int what = -1; what < 5; what++) {
-            due("whole(" + what + ")", x.whole(what), m.whole(what));
-        }
-        for (int what = -1; what < 13; what++) {
-            due("has(" + what + ")", x.has(what), m.has(what));
         }
     }
 
@@ -373,34 +372,38 @@ public final class ModelTest {
         }
     }
 
-    /** All that can be looked at. */
-    private void all() {
-        looks();
-        for (int what = -1; what < 7; what++) {
-            due("status(" + what + ")", x.status(what), m.status(what));
-            for (int p = -1; p <= m.has(1); p++) {
-                due("page(" + p + ", " + what + ")", x.page(p, what), m.page(p, what));
-            }
-            for (int t = -1; t <= m.has(4); t++) {
-                due("table(" + t + ", " + what + ")", x.table(t, what), m.table(t, what));
-            }
+    /** One of all that can be looked at. */
+    private void look() {
+        int r = someReader();
+        int p = somePage();
+        int t = someTable();
+        int what = pick(8) - 1;
+        switch (pick(12)) {
+            case 0: due("tonight(" + r + ", " + what + ")", x.tonight(r, what), m.tonight(r, what)); break;
+            case 1: due("whole(" + what + ")", x.whole(what), m.whole(what)); break;
+            case 2: due("has(" + 2 * what + ")", x.has(2 * what), m.has(2 * what)); break;
+            case 3: due("has(" + (2 * what + 1) + ")", x.has(2 * what + 1), m.has(2 * what + 1)); break;
+            case 4: due("reader(" + r + ", " + what + ")", x.reader(r, what), m.reader(r, what)); break;
+            case 5: due("reader(" + r + ", " + (what + 11) + ")", x.reader(r, what + 11), m.reader(r, what + 11)); break;
+            case 6: due("status(" + what + ")", x.status(what), m.status(what)); break;
+            case 7: due("page(" + p + ", " + what + ")", x.page(p, what), m.page(p, what)); break;
+            case 8: due("table(" + t + ", " + what + ")", x.table(t, what), m.table(t, what)); break;
+            case 9: due("burns(" + r + ")", x.burns(r), m.burns(r)); break;
+            case 10: due("takes(" + r + ", " + p + ")", x.takes(r, p), m.takes(r, p)); break;
+            default: names(); break;
         }
-        for (int r = -1; r <= m.has(3); r++) {
-            due("burns(" + r + ")", x.burns(r), m.burns(r));
-            for (int p = -1; p <= m.has(1); p++) {
-                due("takes(" + r + ", " + p + ")", x.takes(r, p), m.takes(r, p));
-            }
-        }
-        for (int k = -1; k <= 61; k++) {
-            for (int what = -1; what < 4; what++) {
-                due("kept(" + k + ", " + what + ")", x.kept(k, what), m.kept(k, what));
-            }
-        }
-        for (int kind = -1; kind < 5; kind++) {
-            for (int which = -1; which < 15; which++) {
-                int k = pick(8) - 1;
-                due("letter(" + kind + ", " + which + ", " + k + ")", x.letter(kind, which, k), m.letter(kind, which, k));
-            }
+    }
+
+    private void names() {
+        if (chance(50)) {
+            int k = pick(Math.max(1, m.has(8)) + 2) - 1;
+            int what = chance(90) ? pick(3) : pick(6) - 1;
+            due("kept(" + k + ", " + what + ")", x.kept(k, what), m.kept(k, what));
+        } else {
+            int kind = pick(6) - 1;
+            int which = pick(16) - 1;
+            int k = pick(8) - 1;
+            due("letter(" + kind + ", " + which + ", " + k + ")", x.letter(kind, which, k), m.letter(kind, which, k));
         }
     }
 }

@@ -213,10 +213,15 @@ public final class QuestionsTest {
         int bestPages = NONE;
         int bestWax = NONE;
         int bestWay = 0;
+        int[] sits = new int[4];
         for (int way = 0; way < 81; way++) {
             int[] seat = {way / 27, way / 9 % 3, way / 3 % 3, way % 3};
             for (int r = 0; r < 4; r++) {
-                x.seat(r, seat[r]);
+                // an object is good for 512 calls
+                if (seat[r] != sits[r]) {
+                    x.seat(r, seat[r]);
+                    sits[r] = seat[r];
+                }
             }
             int pages = x.whole(0);
             int wax = x.whole(2);
