@@ -35,6 +35,10 @@ public final class CandleInch {
     private static final int USUAL_INCH = 60;
     private static final int WINTER_DRAFT = 3;
     private static final int ALL_TOGETHER = 20;
+    private static final int DRAW_FACTOR = 1103515245;
+    private static final int DRAW_STEP = 12345;
+    /** The lowest 31 bits, which are what is left of a number by 2 to the 31. */
+    private static final int DRAW_BITS = 0x7fffffff;
 
     /** Where the names of each sort begin in a shelf's row of names. */
     private static final int[] FIRST_NAME = {0, 5, 19, 25};
@@ -574,7 +578,7 @@ public final class CandleInch {
     }
 
     private int drawOf(int m) {
-        draw = (1103515245 * draw + 12345) & Integer.MAX_VALUE;
+        draw = (DRAW_FACTOR * draw + DRAW_STEP) & DRAW_BITS;
         return m > 0 ? (draw / 64) % m : 0;
     }
 
@@ -980,12 +984,7 @@ public final class CandleInch {
 
         private boolean parseFact() {
             if (tape.isOwn(WORD_NOT)) {
-                if (!openOne() || !parseFact()) {
-                    return false;
-                }
-                open--;
-                shelf.emit(DO_NOT);
-                return true;
+                return openOne() && parseNegated();
             }
             if (tape.isSign('[')) {
                 return openOne() && parseTest() && closeOne(']');
@@ -1005,6 +1004,14 @@ public final class CandleInch {
             tape.step();
             boolean good = parseSum();
             shelf.emit(operator);
+            return good;
+        }
+
+        /** A not is open until its fact ends. */
+        private boolean parseNegated() {
+            boolean good = parseFact();
+            open--;
+            shelf.emit(DO_NOT);
             return good;
         }
 
@@ -1696,7 +1703,7 @@ public final class CandleInch {
             mostCount = NONE;
             mostBits = 0;
             mostMinutes = 0;
-            chooseMost(0, 0, 0, 0);
+            chooseMost(this, 0, 0, 0, 0);
         }
 
         private void measurePages() {
@@ -1709,26 +1716,31 @@ public final class CandleInch {
         }
 
         /** With a page before without it: large sets come first, and the rest is cut off soon. */
-        private void chooseMost(int page, int set, int count, int minutes) {
-            int pages = hall.shelf.count[PAGES];
+        private static void chooseMost(Study study, int page, int set, int count, int minutes) {
+            Shelf shelf = study.hall.shelf;
+            int pages = shelf.count[PAGES];
             int reach = count + pages - page;
-            if (reach < mostCount || (reach == mostCount && minutes > mostMinutes)) {
+            if (reach < study.mostCount || (reach == study.mostCount && minutes > study.mostMinutes)) {
                 return;
             }
             if (page >= pages) {
-                if (count > mostCount || minutes < mostMinutes || set < mostBits) {
-                    mostCount = count;
-                    mostBits = set;
-                    mostMinutes = minutes;
-                }
+                study.tryMost(set, count, minutes);
                 return;
             }
-            int known = hall.known(mostReader);
-            int then = minutes + takes[page];
-            if ((known & (1 << page)) == 0 && then <= limit && hall.shelf.mayRead(known | set, page)) {
-                chooseMost(page + 1, set | (1 << page), count + 1, then);
+            int known = study.hall.known(study.mostReader);
+            int then = minutes + study.takes[page];
+            if ((known & (1 << page)) == 0 && then <= study.limit && shelf.mayRead(known | set, page)) {
+                chooseMost(study, page + 1, set | (1 << page), count + 1, then);
             }
-            chooseMost(page + 1, set, count, minutes);
+            chooseMost(study, page + 1, set, count, minutes);
+        }
+
+        private void tryMost(int set, int count, int minutes) {
+            if (count > mostCount || minutes < mostMinutes || set < mostBits) {
+                mostCount = count;
+                mostBits = set;
+                mostMinutes = minutes;
+            }
         }
 
         void findSets(int reader, int minutes) {
@@ -1744,25 +1756,30 @@ public final class CandleInch {
             setCount = 0;
             setAll = ~0;
             setSome = 0;
-            chooseSets(0, 0, minutes);
+            chooseSets(this, 0, 0, minutes);
         }
 
-        private void chooseSets(int page, int set, int rest) {
-            if (page >= hall.shelf.count[PAGES]) {
+        private static void chooseSets(Study study, int page, int set, int rest) {
+            Shelf shelf = study.hall.shelf;
+            if (page >= shelf.count[PAGES]) {
                 if (rest == 0) {
-                    setCount++;
-                    setAll &= set;
-                    setSome |= set;
+                    study.addSet(set);
                 }
                 return;
             }
-            if (rest > takesFrom[page]) {
+            if (rest > study.takesFrom[page]) {
                 return;
             }
-            if (takes[page] <= rest && hall.shelf.mayRead(set, page)) {
-                chooseSets(page + 1, set | (1 << page), rest - takes[page]);
+            if (study.takes[page] <= rest && shelf.mayRead(set, page)) {
+                chooseSets(study, page + 1, set | (1 << page), rest - study.takes[page]);
             }
-            chooseSets(page + 1, set, rest);
+            chooseSets(study, page + 1, set, rest);
+        }
+
+        private void addSet(int set) {
+            setCount++;
+            setAll &= set;
+            setSome |= set;
         }
     }
 
@@ -1820,7 +1837,7 @@ public final class CandleInch {
             }
             nights = NONE;
             minutes = 0;
-            share(0, 0, 0);
+            share(this, 0, 0, 0);
         }
 
         private void measure(int sharer) {
@@ -1838,31 +1855,39 @@ public final class CandleInch {
         }
 
         /** Nights and minutes only grow from page to page, so what is no better already is left. */
-        private void share(int k, int most, int all) {
-            if (nights != NONE && (most > nights || (most == nights && all >= minutes))) {
+        private static void share(Sharing sharing, int k, int most, int all) {
+            if (sharing.isNoBetter(most, all)) {
                 return;
             }
-            if (k >= pages) {
-                nights = sharers == 0 ? NONE : most;
-                minutes = all;
-                System.arraycopy(given, 0, best, 0, MOST_SHARED);
+            if (k >= sharing.pages) {
+                sharing.take(most, all);
                 return;
             }
-            for (int s = 0; s < sharers; s++) {
-                int before = part[s];
-                int spentBefore = spent[s];
-                int added = asks[s * MOST_SHARED + k] & ~before;
-                int more = minutesOf(s, added);
-                int his = Study.nightsFor(spentBefore + more, light[s]);
+            for (int s = 0; s < sharing.sharers; s++) {
+                int before = sharing.part[s];
+                int spentBefore = sharing.spent[s];
+                int added = sharing.asks[s * MOST_SHARED + k] & ~before;
+                int more = sharing.minutesOf(s, added);
+                int his = Study.nightsFor(spentBefore + more, sharing.light[s]);
                 if (his != NONE) {
-                    given[k] = s;
-                    part[s] = before | added;
-                    spent[s] = spentBefore + more;
-                    share(k + 1, Math.max(most, his), all + more);
-                    part[s] = before;
-                    spent[s] = spentBefore;
+                    sharing.given[k] = s;
+                    sharing.part[s] = before | added;
+                    sharing.spent[s] = spentBefore + more;
+                    share(sharing, k + 1, Math.max(most, his), all + more);
+                    sharing.part[s] = before;
+                    sharing.spent[s] = spentBefore;
                 }
             }
+        }
+
+        private boolean isNoBetter(int most, int all) {
+            return nights != NONE && (most > nights || (most == nights && all >= minutes));
+        }
+
+        private void take(int most, int all) {
+            nights = most;
+            minutes = all;
+            System.arraycopy(given, 0, best, 0, MOST_SHARED);
         }
 
         private int minutesOf(int sharer, int set) {
@@ -2092,7 +2117,7 @@ public final class CandleInch {
                     return false;
                 }
                 taken |= 1 << page;
-                leftListed |= page == left;
+                leftListed = leftListed || page == left;
                 row[from + HIS_LIST + k] = page;
             }
             return left == NONE ? into == 0 : leftListed && into > 0 && into < MOST_MINUTES;

@@ -15,12 +15,22 @@ public final class LanguageTest {
         "takes", "burns", "tonight", "whole", "seat", "list", "drop", "tell", "night", "winter", "undo", "seed", "kept",
         "work", "scholar", "shared", "seated", "most", "wax", "index", "image", "octet", "on", "status"};
 
+    /** What the class uses of the library, and what of it LANGUAGE.md lists; constants of Integer are not there. */
+    private static final Set<String> LISTED = Set.of("Arrays.fill", "Integer.bitCount", "Math.floorDiv", "Math.floorMod",
+        "Math.max", "Math.min", "System.arraycopy");
+
     public static void main(String[] args) throws Exception {
         face();
         nested();
         words();
-        lengths();
+        library();
+        recursion();
         Check.close("LanguageTest");
+    }
+
+    private static String code() throws Exception {
+        String text = Files.readString(Path.of("src/main/java/CandleInch.java"));
+        return text.replaceAll("(?s)/\\*.*?\\*/", "").replaceAll("//[^\n]*", "").replaceAll("\"[^\"\n]*\"", "\"\"");
     }
 
     private static void face() {
@@ -63,9 +73,8 @@ public final class LanguageTest {
 
     private static void words() throws Exception {
         String text = Files.readString(Path.of("src/main/java/CandleInch.java"));
-        String code = text.replaceAll("(?s)/\\*.*?\\*/", "").replaceAll("//[^\n]*", "").replaceAll("\"[^\"\n]*\"", "\"\"");
         Matcher bad = Pattern.compile("\\b(throw|throws|try|catch|finally|synchronized|assert|package|var|record)\\b"
-                + "|->|::|Exact\\b|\\bjava\\.(?!util\\.Arrays;)").matcher(code);
+                + "|->|::|Exact\\b|\\bjava\\.(?!util\\.Arrays;)").matcher(code());
         while (bad.find()) {
             Check.due("'" + bad.group() + "' in the code", 1, 0);
         }
@@ -74,20 +83,44 @@ public final class LanguageTest {
         }
     }
 
-    /** Methods have some sixty lines; one begins four or eight blanks in, and ends with the brace below its first letter. */
-    private static void lengths() throws Exception {
+    /** Rule 4: only what is listed. Rule 10: && and || alone are listed for what is true or false, not &=, |= or ^=. */
+    private static void library() throws Exception {
+        Matcher used = Pattern.compile("\\b(Arrays|Boolean|Character|Double|Float|Integer|List|Long|Math|Short|String|System)\\.\\w+")
+                .matcher(code());
+        while (used.find()) {
+            Check.due(used.group() + " is listed", LISTED.contains(used.group()), true);
+        }
+        Matcher joined = Pattern.compile("[&|^]=[^;]*(==|!=|<=|>=|&&|\\|\\|)[^;]*;").matcher(code());
+        while (joined.find()) {
+            Check.due("'" + joined.group() + "' joins by && or ||", 1, 0);
+        }
+    }
+
+    /** Rule 8: a method that calls itself is private and static. Rule 11: a method has some sixty lines. */
+    private static void recursion() throws Exception {
+        Pattern header = Pattern.compile(" {4}( {4})?[A-Za-z][^=;]*?(\\w+)\\([^=;]*\\) \\{");
+        String opened = "";
+        String name = "";
         String indent = "";
+        int methods = 0;
         int lines = 0;
-        for (String line : Files.readAllLines(Path.of("src/main/java/CandleInch.java"))) {
-            if (line.matches(" {4}( {4})?[A-Za-z][^=;]*\\) \\{")) {
+        for (String line : code().split("\n")) {
+            Matcher m = header.matcher(line);
+            if (m.matches()) {
+                opened = line.strip();
+                name = m.group(2);
                 indent = line.substring(0, line.length() - line.stripLeading().length());
+                methods++;
                 lines = 0;
+            } else if (!name.isEmpty() && Pattern.compile("(?<![\\w.])" + name + "\\(").matcher(line).find()) {
+                Check.due(opened + " calls itself, private and static", opened.startsWith("private static "), true);
             }
             lines++;
             if (line.equals(indent + "}")) {
-                Check.due("a method of " + lines + " lines", lines <= 60, true);
-                lines = 0;
+                Check.due(opened + " has " + lines + " lines", lines <= 60, true);
+                name = "";
             }
         }
+        Check.due("methods were looked at", methods > 150, true);
     }
 }
